@@ -4,7 +4,8 @@ import java.util.Random;
 public final class ModelTest {
     private static final int RUNS = 2500;
     // An object is used for at most 512 calls, and a command text takes up to 61.
-    private static final int CALLS = 450;
+    private static final int CALLS = 430;
+    private static final int ALL_CALLS = 512;
     // The model tries all sequences of legs for a best pairing.
     private static final int SLOW = 11;
 
@@ -149,11 +150,23 @@ public final class ModelTest {
             case 12 -> {
                 if (random.nextInt(3) == 0) {
                     compare("pair()", program.pair(), model.pair());
+                    rows();
                 } else if (model.candidates(crew) < SLOW) {
                     compare("takeBest(" + crew + ")", program.takeBest(crew), model.takeBest(crew));
+                    items(crew);
                 }
             }
-            case 13 -> compare("repair()", program.repair(), model.repair());
+            case 13 -> {
+                int removed = model.repair();
+                compare("repair()", program.repair(), removed);
+                for (int i = 0; i < removed; i++) {
+                    repaired(i, 1);
+                    repaired(i, 3);
+                }
+                if (removed > 0) {
+                    rows();
+                }
+            }
             case 14 -> command();
             case 15 -> compare("undo()", program.undo(), model.undo());
             default -> {
@@ -268,10 +281,7 @@ public final class ModelTest {
             case 6 -> compare("place(" + crew + ", " + leg + ", " + flies + ")",
                     program.place(crew, leg, flies), model.place(crew, leg, flies));
             case 7 -> compare("itemCount(" + crew + ")", program.itemCount(crew), model.itemCount(crew));
-            case 8 -> {
-                int what = what(2);
-                compare("item(" + crew + ", " + i + ", " + what + ")", program.item(crew, i, what), model.item(crew, i, what));
-            }
+            case 8 -> item(crew, i, what(2));
             case 9 -> compare("dutyCount(" + crew + ")", program.dutyCount(crew), model.dutyCount(crew));
             case 10 -> {
                 int what = what(3);
@@ -303,15 +313,37 @@ public final class ModelTest {
                 int what = what(2);
                 compare("offer(" + leg + ", " + what + ")", program.offer(leg, what), model.offer(leg, what));
             }
-            case 23 -> {
-                int what = what(3);
-                compare("repaired(" + i + ", " + what + ")", program.repaired(i, what), model.repaired(i, what));
-            }
+            case 23 -> repaired(i, what(3));
             case 24 -> best(crew, i);
             default -> {
                 int at = pick(-1, upTo(30), upTo(120), model.letter(crew, -1), -2);
                 compare("letter(" + crew + ", " + at + ")", program.letter(crew, at), model.letter(crew, at));
             }
+        }
+    }
+
+    private void repaired(int i, int what) {
+        if (made < ALL_CALLS) {
+            compare("repaired(" + i + ", " + what + ")", program.repaired(i, what), model.repaired(i, what));
+        }
+    }
+
+    private void item(int crew, int i, int what) {
+        if (made < ALL_CALLS) {
+            compare("item(" + crew + ", " + i + ", " + what + ")", program.item(crew, i, what), model.item(crew, i, what));
+        }
+    }
+
+    private void items(int crew) {
+        int count = model.itemCount(crew);
+        for (int i = 0; i < count; i++) {
+            item(crew, i, 0);
+        }
+    }
+
+    private void rows() {
+        for (int crew = 0; crew < model.crewCount(); crew++) {
+            items(crew);
         }
     }
 

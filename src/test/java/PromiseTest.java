@@ -1445,6 +1445,13 @@ public final class PromiseTest {
         z.cancel(5);
         z.addLeg(2, 0, 0, 600);
         CHECK.is("36 each departs later than the item before", best(z, 0), "100 0 1 2 3");
+        CrewPairer w = wide();
+        w.addCrew(0);
+        int[] airports = {0, 1, 2, 0, 1, 0, 1, 0};
+        for (int i = 0; i < 7; i++) {
+            w.addLeg(airports[i], airports[i + 1], 120 * i, 120 * i + 60);
+        }
+        CHECK.is("36 all seven would be home", best(w, 0), "300 0 1 2 3 4");
     }
 
     private static void promise37BestLeg() {
@@ -1510,6 +1517,17 @@ public final class PromiseTest {
             is("39 crew " + wrong, x.letter(wrong, 0), BAD);
         }
         is("39 the other crew", x.letter(1, -1), 0);
+        CrewPairer y = wide();
+        y.addCrew(0);
+        y.setRule(1, 300);
+        for (int i = 0; i < 24; i++) {
+            y.addLeg(i % 2, 1 - i % 2, 60 * i + 400 * (i / 8), 60 * i + 400 * (i / 8) + 20);
+            y.ride(0, i);
+        }
+        is("39 a row of all legs", y.itemCount(0), 24);
+        is("39 the longest text", y.letter(0, -1), 600);
+        is("39 its last letter", y.letter(0, 599), ';');
+        is("39 no position", y.letter(0, 600), NONE);
     }
 
     private static void promise40Feed() {
@@ -1566,7 +1584,7 @@ public final class PromiseTest {
     private static void promise41ExecuteErrors() {
         Object[][] texts = {
             {"", 0}, {"pair;", 5}, {";", 0}, {";pair", 0}, {"pair;;pair", 5}, {" pair", 0}, {"pair ", 4}, {"pair ;pair", 4},
-            {"pair; pair", 5}, {"pai", 0}, {"p", 0}, {"pairs", 0}, {"pair;xyz", 5}, {"pair;fl", 5}, {"Pair", 0}, {"paiR", 0},
+            {"pair; pair", 5}, {"pai", 0}, {"p", 0}, {"pairs", 0}, {"pairz", 0}, {"paira", 0}, {"pair;xyz", 5}, {"pair;fl", 5}, {"Pair", 0}, {"paiR", 0},
             {"pairR", 4}, {"pair1", 4}, {"crew", 4}, {"crew ", 5}, {"crew  1", 5}, {"crew x", 5}, {"crew 1x", 6}, {"crew 1 ", 6},
             {"crew 1 1", 6}, {"crew1", 4}, {"crew;", 4}, {"crew 12345", 9}, {"crew -1", 5}, {"fly 0", 5}, {"fly 0 ", 6},
             {"fly 0;1", 5}, {"fly 0,1", 5}, {"fly 0000 0000 ", 13}, {"fly 00000 0", 8}, {"leg 0 1 2", 9}, {"leg 0 1 2 ", 10},
