@@ -1,21 +1,14 @@
-import com.sun.source.tree.AssertTree;
 import com.sun.source.tree.BinaryTree;
 import com.sun.source.tree.BlockTree;
 import com.sun.source.tree.ClassTree;
 import com.sun.source.tree.CompilationUnitTree;
 import com.sun.source.tree.CompoundAssignmentTree;
 import com.sun.source.tree.ImportTree;
-import com.sun.source.tree.InstanceOfTree;
-import com.sun.source.tree.LambdaExpressionTree;
-import com.sun.source.tree.MemberReferenceTree;
 import com.sun.source.tree.MethodInvocationTree;
 import com.sun.source.tree.MethodTree;
 import com.sun.source.tree.NewArrayTree;
 import com.sun.source.tree.NewClassTree;
-import com.sun.source.tree.SynchronizedTree;
-import com.sun.source.tree.ThrowTree;
 import com.sun.source.tree.Tree;
-import com.sun.source.tree.TryTree;
 import com.sun.source.tree.VariableTree;
 import com.sun.source.util.JavacTask;
 import com.sun.source.util.SourcePositions;
@@ -51,6 +44,9 @@ public final class LanguageTest extends TreePathScanner<Void, Void> {
     private static final int MOST_CLASSES = 12;
     private static final int MOST_FIELDS = 20;
     private static final int DEEPEST_CALLS = 8;
+    private static final Set<Tree.Kind> REFUSED = Set.of(Tree.Kind.THROW, Tree.Kind.TRY, Tree.Kind.SYNCHRONIZED,
+            Tree.Kind.ASSERT, Tree.Kind.LAMBDA_EXPRESSION, Tree.Kind.MEMBER_REFERENCE, Tree.Kind.INSTANCE_OF,
+            Tree.Kind.DOUBLE_LITERAL, Tree.Kind.FLOAT_LITERAL, Tree.Kind.ANNOTATION);
     private static final Set<String> LIBRARY = Set.of("java.lang.System.arraycopy", "java.lang.String.length",
             "java.lang.String.charAt");
     private static final Set<String> FACE = Set.of("addLeg", "addCrew", "legCount", "crewCount", "leg", "setRule", "rule",
@@ -121,10 +117,6 @@ public final class LanguageTest extends TreePathScanner<Void, Void> {
         } else {
             check.is(rule, 1, 1);
         }
-    }
-
-    private void refuse(Tree tree) {
-        demand(false, tree, "2, 6 or 10: " + tree.getKind());
     }
 
     private long line(Tree tree, boolean start) {
@@ -264,44 +256,10 @@ public final class LanguageTest extends TreePathScanner<Void, Void> {
     }
 
     @Override
-    public Void visitThrow(ThrowTree tree, Void none) {
-        refuse(tree);
-        return null;
-    }
-
-    @Override
-    public Void visitTry(TryTree tree, Void none) {
-        refuse(tree);
-        return null;
-    }
-
-    @Override
-    public Void visitSynchronized(SynchronizedTree tree, Void none) {
-        refuse(tree);
-        return null;
-    }
-
-    @Override
-    public Void visitAssert(AssertTree tree, Void none) {
-        refuse(tree);
-        return null;
-    }
-
-    @Override
-    public Void visitLambdaExpression(LambdaExpressionTree tree, Void none) {
-        refuse(tree);
-        return null;
-    }
-
-    @Override
-    public Void visitMemberReference(MemberReferenceTree tree, Void none) {
-        refuse(tree);
-        return null;
-    }
-
-    @Override
-    public Void visitInstanceOf(InstanceOfTree tree, Void none) {
-        refuse(tree);
-        return null;
+    public Void scan(Tree tree, Void none) {
+        if (tree != null) {
+            demand(!REFUSED.contains(tree.getKind()), tree, "2, 6 or 10: " + tree.getKind());
+        }
+        return super.scan(tree, none);
     }
 }

@@ -9,6 +9,9 @@ public final class ModelTest {
     // The model tries all sequences of legs for a best pairing.
     private static final int SLOW = 11;
 
+    private static final int LOW = Integer.MIN_VALUE;
+    private static final int HIGH = Integer.MAX_VALUE;
+
     private static final String[] WORDS =
             {"leg", "crew", "fly", "ride", "drop", "late", "cancel", "rule", "pair", "repair"};
     private static final int[] NUMBERS = {4, 1, 2, 2, 2, 2, 1, 2, 0, 0};
@@ -75,11 +78,11 @@ public final class ModelTest {
     }
 
     private int aCrew() {
-        return random.nextInt(40) == 0 ? pick(-1, model.crewCount(), 6, 99) : random.nextInt(Math.max(1, model.crewCount()));
+        return random.nextInt(40) == 0 ? pick(-1, model.crewCount(), 6, LOW, HIGH) : random.nextInt(Math.max(1, model.crewCount()));
     }
 
     private int aLeg() {
-        return random.nextInt(40) == 0 ? pick(-1, model.legCount(), 24, 99) : random.nextInt(Math.max(1, model.legCount()));
+        return random.nextInt(40) == 0 ? pick(-1, model.legCount(), 24, LOW, HIGH) : random.nextInt(Math.max(1, model.legCount()));
     }
 
     /** An open leg mostly, so that changes have something to do. */
@@ -89,7 +92,7 @@ public final class ModelTest {
     }
 
     private int what(int most) {
-        return random.nextInt(40) == 0 ? pick(-1, most + 1) : upTo(most);
+        return random.nextInt(40) == 0 ? pick(-1, most + 1, LOW, HIGH) : upTo(most);
     }
 
     private void begin() {
