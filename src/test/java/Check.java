@@ -8,6 +8,16 @@ final class Check {
     private int passed;
     private int failed;
     private final List<String> told = new ArrayList<>();
+    private String test = "";
+
+    /** From now on what goes wrong is told as a part of this test. */
+    void in(String name) {
+        test = name + ": ";
+    }
+
+    int count() {
+        return passed + failed;
+    }
 
     void is(String what, long got, long want) {
         if (got == want) {
@@ -28,7 +38,7 @@ final class Check {
     void wrong(String what) {
         failed++;
         if (told.size() < MOST_TOLD) {
-            told.add(what);
+            told.add(test + what);
         }
     }
 
@@ -37,11 +47,11 @@ final class Check {
     }
 
     /** Prints the counts and ends the program with exit code 1 if anything was wrong. */
-    void end(String test) {
+    void end(String name) {
         for (String line : told) {
             System.out.println(line);
         }
-        System.out.println(test + ": " + passed + " checks passed, " + failed + " failed");
+        System.out.println(name + ": " + passed + " checks passed, " + failed + " failed");
         if (failed > 0 || passed == 0) {
             System.exit(1);
         }

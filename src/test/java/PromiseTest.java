@@ -1,18 +1,5 @@
 /** The promises of the document, a method for each: ordinary inputs, the edges that it names, wrong inputs. */
-public final class PromiseTest {
-    private static final int BAD = -1;
-    private static final int NONE = -2;
-    private static final int FULL = -3;
-    private static final int DUPLICATE = -4;
-    private static final int RANGE = -5;
-    private static final int LOW = Integer.MIN_VALUE;
-    private static final int HIGH = Integer.MAX_VALUE;
-    private static final int[] RULE_LEAST = {10, 300, 300, 120, 1, 120, 0, 0};
-    private static final int[] RULE_MOST = {120, 900, 960, 720, 8, 1200, 99, 9999};
-    private static final int[] RULE_FIRST = {30, 600, 720, 480, 4, 600, 10, 500};
-
-    private static final Check CHECK = new Check();
-
+public final class PromiseTest extends Asking {
     public static void main(String[] args) {
         constants();
         promise01NewObject();
@@ -69,98 +56,6 @@ public final class PromiseTest {
         promise44Undo();
         promise44UndoOfEachChange();
         CHECK.end("PromiseTest");
-    }
-
-    private static void is(String what, long got, long want) {
-        CHECK.is(what, got, want);
-    }
-
-    private static void feedAll(CrewPairer x, String text) {
-        for (int i = 0; i < text.length(); i++) {
-            is("feed of \"" + text + "\" at " + i, x.feed(text.charAt(i)), i + 1);
-        }
-    }
-
-    private static int run(CrewPairer x, String text) {
-        feedAll(x, text);
-        return x.execute();
-    }
-
-    private static String text(CrewPairer x, int crew) {
-        StringBuilder text = new StringBuilder();
-        int length = x.letter(crew, -1);
-        for (int i = 0; i < length; i++) {
-            text.append((char) x.letter(crew, i));
-        }
-        return text.toString();
-    }
-
-    private static String row(CrewPairer x, int crew) {
-        StringBuilder text = new StringBuilder();
-        for (int i = 0; i < x.itemCount(crew); i++) {
-            text.append(i > 0 ? " " : "").append(x.item(crew, i, 1) == 1 ? "f" : "r").append(x.item(crew, i, 0));
-        }
-        return text.toString();
-    }
-
-    private static String violations(CrewPairer x, int crew) {
-        StringBuilder text = new StringBuilder();
-        for (int i = 0; i < x.violationCount(crew); i++) {
-            text.append(i > 0 ? " " : "").append(x.violation(crew, i, 0)).append('@').append(x.violation(crew, i, 1));
-        }
-        return text.toString();
-    }
-
-    private static String open(CrewPairer x) {
-        StringBuilder text = new StringBuilder();
-        for (int i = 0; x.open(i) >= 0; i++) {
-            text.append(i > 0 ? " " : "").append(x.open(i));
-        }
-        return text.toString();
-    }
-
-    private static String repaired(CrewPairer x) {
-        StringBuilder text = new StringBuilder();
-        for (int i = 0; x.repaired(i, 0) >= 0; i++) {
-            text.append(i > 0 ? " " : "").append(x.repaired(i, 0)).append(x.repaired(i, 2) == 1 ? "f" : "r")
-                    .append(x.repaired(i, 1)).append(':').append(x.repaired(i, 3));
-        }
-        return text.toString();
-    }
-
-    private static String best(CrewPairer x, int crew) {
-        StringBuilder text = new StringBuilder();
-        text.append(x.bestMinutes(crew));
-        for (int i = 0; i < x.bestLeg(crew, -1); i++) {
-            text.append(' ').append(x.bestLeg(crew, i));
-        }
-        return text.toString();
-    }
-
-    private static String offer(CrewPairer x, int leg) {
-        return x.offer(leg, 0) + " " + x.offer(leg, 1) + " " + x.offer(leg, 2);
-    }
-
-    /** Rules under which hardly anything is a violation but for 1 to 3. */
-    private static CrewPairer wide() {
-        CrewPairer x = new CrewPairer();
-        x.setRule(2, 960);
-        x.setRule(3, 720);
-        x.setRule(4, 8);
-        x.setRule(5, 1200);
-        return x;
-    }
-
-    /** Legs 0 to 3 go from 0 to 1 and back, an hour each with an hour between them, from 480 on; crews at 0. */
-    private static CrewPairer shuttle(int crews) {
-        CrewPairer x = new CrewPairer();
-        for (int i = 0; i < 4; i++) {
-            x.addLeg(i % 2, 1 - i % 2, 480 + 120 * i, 540 + 120 * i);
-        }
-        for (int i = 0; i < crews; i++) {
-            x.addCrew(0);
-        }
-        return x;
     }
 
     private static void constants() {
