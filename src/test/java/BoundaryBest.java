@@ -82,7 +82,9 @@ final class BoundaryBest extends Refusals {
         is("leg 2 behind a gap of 30", best(x, 0), "5 2");
         x.delay(2, -1);
         is("leg 2 behind a gap of 29", best(x, 0), "-2");
-        x.delay(2, -49);
+        x.delay(2, -30);
+        is("leg 2 behind a gap of -1", best(x, 0), "-2");
+        x.delay(2, -19);
         is("leg 2 at the departure of the last item", best(x, 0), "-2");
         CrewPairer y = chain(4);
         y.ride(0, 2);
@@ -101,13 +103,57 @@ final class BoundaryBest extends Refusals {
         is("a gap of 29", best(w, 0), "-2");
         w.delay(1, -29);
         is("a gap of 0", best(w, 0), "-2");
-        w.delay(1, -20);
+        w.delay(1, -1);
+        is("a gap of -1", best(w, 0), "-2");
+        w.delay(1, -19);
         is("the same departure", best(w, 0), "-2");
         CrewPairer v = chain(2);
         v.addCrew(1);
         v.addCrew(2);
         is("home is another base, and the leg to it departs first", best(v, 1), "-2");
         is("home is a base without legs", best(v, 2), "-2");
+    }
+
+    @Sentence(of = "Description", says = "lead to a row without violations after which the crew is home;")
+    static void descriptionABestPairingIsWithinAllRules() {
+        CrewPairer x = wide();
+        x.addCrew(0);
+        x.addLeg(0, 1, 0, 60);
+        x.addLeg(1, 0, 240, 300);
+        x.addLeg(1, 0, 239, 300);
+        x.setRule(2, 300);
+        x.setRule(3, 121);
+        x.setRule(5, 121);
+        is("a duty of 300 minutes, 121 minutes flown", best(x, 0), "121 0 2");
+        x.setRule(3, 120);
+        is("120 minutes in a duty", best(x, 0), "120 0 1");
+        x.setRule(3, 121);
+        x.setRule(5, 120);
+        is("120 minutes in a window", best(x, 0), "120 0 1");
+        x.setRule(4, 2);
+        is("2 items in a duty", best(x, 0), "120 0 1");
+        x.setRule(4, 1);
+        is("1 item in a duty", best(x, 0), "-2");
+        x.setRule(4, 2);
+        x.cancel(2);
+        x.delay(1, 1);
+        is("a duty of 301 minutes", best(x, 0), "-2");
+        x.setRule(2, 301);
+        is("if the rule allows them", best(x, 0), "120 0 1");
+        CrewPairer y = wide();
+        y.addCrew(0);
+        y.setRule(5, 120);
+        y.addLeg(0, 1, 0, 60);
+        y.addLeg(1, 0, 1379, 1440);
+        y.fly(0, 0);
+        is("121 minutes from the first item of the row on", best(y, 0), "-2");
+        y.delay(1, 1);
+        is("a minute of them is outside the window", best(y, 0), "61 1");
+        CrewPairer z = fullest();
+        z.drop(0, 23);
+        is("the last of 24 items", best(z, 0), "20 23");
+        z.setRule(4, 7);
+        is("not if the row has violations", best(z, 0), "-2");
     }
 
     @Sentence(of = "Description", says = "it is the one with the greatest sum of lengths; then with the fewest legs; then the "

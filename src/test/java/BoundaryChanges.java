@@ -282,6 +282,99 @@ final class BoundaryChanges extends Refusals {
         is("and kept", y.restore(), 0);
     }
 
+    @Sentence(of = "Promise 43", says = "Restores the snapshot, which is kept.")
+    static void promise43AllOfLegsCrewsAndRulesIsRestored() {
+        CrewPairer x = new CrewPairer();
+        x.addLeg(0, 1, 100, 160);
+        x.addLeg(1, 0, 200, 260);
+        x.addCrew(0);
+        x.setReserve(0, 5, 50);
+        x.fly(0, 0);
+        x.ride(0, 1);
+        x.save();
+        for (int i = 5; i >= 0; i--) {
+            is("undo", x.undo(), i);
+        }
+        x.addLeg(2, 3, 300, 400);
+        x.addLeg(4, 5, 50, 90);
+        x.cancel(1);
+        x.addCrew(2);
+        x.setReserve(0, 7, 70);
+        x.fly(0, 0);
+        for (int rule = 0; rule < 8; rule++) {
+            x.setRule(rule, RULE_MOST[rule]);
+        }
+        is("no open leg", x.open(0), NONE);
+        x.drop(0, 0);
+        is("restore", x.restore(), 2);
+        promise43IsAsSaved(x);
+        is("undo of restore", x.undo(), 7);
+        int[] other = {2, 3, 300, 400, 0, NONE};
+        for (int what = 0; what < 6; what++) {
+            is("the other leg 0, what " + what, x.leg(0, what), other[what]);
+        }
+        is("the other crew", x.reserve(0, 0), 7);
+        is("its base", x.reason(0, 0, true), 0);
+        is("the other rule", x.rule(5), 1200);
+        is("restore again", x.restore(), 2);
+        promise43IsAsSaved(x);
+        x.delay(1, -150);
+        is("leg 1 is the first item then", row(x, 0), "r1 f0");
+        x.drop(0, 0);
+        x.restore();
+        promise43IsAsSaved(x);
+    }
+
+    private static void promise43IsAsSaved(CrewPairer x) {
+        int[][] due = {{0, 1, 100, 160, 0, 0}, {1, 0, 200, 260, 0, NONE}};
+        for (int leg = 0; leg < 2; leg++) {
+            for (int what = 0; what < 6; what++) {
+                is("leg " + leg + ", what " + what, x.leg(leg, what), due[leg][what]);
+            }
+        }
+        is("row", row(x, 0), "f0 r1");
+        is("no violation, as the base is 0", violations(x, 0), "");
+        is("start", x.reserve(0, 0), 5);
+        is("end", x.reserve(0, 1), 50);
+        is("open leg", open(x), "1");
+        for (int rule = 0; rule < 8; rule++) {
+            is("rule " + rule, x.rule(rule), RULE_FIRST[rule]);
+        }
+    }
+
+    @Sentence(of = "Promise 44", says = "Undoes the latest change that was not undone: legs, crews and rules become as they were "
+            + "before it.")
+    static void promise44AllOfLegsCrewsAndRulesIsUndone() {
+        CrewPairer x = new CrewPairer();
+        x.addLeg(0, 1, 100, 160);
+        x.addLeg(0, 2, 200, 260);
+        x.addCrew(0);
+        x.setReserve(0, 5, 50);
+        x.setReserve(0, 7, 70);
+        x.undo();
+        is("the earlier start", x.reserve(0, 0), 5);
+        is("the earlier end", x.reserve(0, 1), 50);
+        x.delay(0, 101);
+        is("the other order", open(x), "1 0");
+        x.undo();
+        is("the earlier order", open(x), "0 1");
+        is("the earlier departure", x.leg(0, 2), 100);
+        is("the earlier arrival", x.leg(0, 3), 160);
+        x.undo();
+        x.undo();
+        x.addCrew(5);
+        is("another base", x.reason(0, 0, true), 2);
+        x.undo();
+        is("no crew", x.crewCount(), 0);
+        x.undo();
+        x.undo();
+        is("no leg", x.legCount(), 0);
+        is("nothing left", x.undo(), NONE);
+        is("another leg", x.addLeg(3, 4, 100, 101), 0);
+        is("from", x.leg(0, 0), 3);
+        is("to", x.leg(0, 1), 4);
+    }
+
     @Sentence(of = "Promise 44", says = {
         "Undoes the latest change that was not undone: legs, crews and rules become as they were before it.",
         "Returns the number of changes that can still be undone; NONE if there is none."})

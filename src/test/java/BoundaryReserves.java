@@ -173,6 +173,25 @@ final class BoundaryReserves extends Refusals {
         }
         is("the reserve is called for what it can fly, each leg in a duty of its own", repaired(z), all.toString());
         is("the reserve flies", row(z, 1), "f2 f9 f16 f23");
+        CrewPairer v = new CrewPairer();
+        v.addCrew(0);
+        v.addCrew(0);
+        v.addLeg(0, 1, 200, 260);
+        v.addLeg(1, 0, 300, 360);
+        v.fly(0, 0);
+        v.fly(0, 1);
+        v.setRule(4, 1);
+        is("both items", v.repair(), 2);
+        is("there is no reserve", repaired(v), "0f0:-2 0f1:-2");
+        v.setReserve(1, 0, 6000);
+        is("again", v.repair(), 0);
+        is("nobody is called for what the repair before removed", row(v, 1), "");
+        v.undo();
+        v.undo();
+        v.undo();
+        v.setReserve(1, 0, 6000);
+        is("both items again", v.repair(), 2);
+        is("the reserve is called for the very first leg", repaired(v), "0f0:1 0f1:-2");
         CrewPairer w = shuttle(2);
         w.ride(0, 0);
         w.ride(0, 1);

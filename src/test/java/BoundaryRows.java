@@ -586,10 +586,11 @@ final class BoundaryRows extends Refusals {
     static void promise24CrewIsOneThatIsThereOrAll() {
         CrewPairer x = some();
         x.setRule(1, 300);
+        is("crew 0 rides", x.ride(0, 0), 0);
         is("crew 1 rides back after a gap of 300", x.ride(1, 3), 1);
         is("crew 2 rides back, too", x.ride(2, 3), 1);
-        int[][] due = {{0, 0, 0}, {1200, 500, 1700}, {600, 0, 600}};
-        int[] all = {1800, 500, 2300};
+        int[][] due = {{600, 0, 600}, {1200, 500, 1700}, {600, 0, 600}};
+        int[] all = {2400, 500, 2900};
         for (int what = 0; what < 3; what++) {
             for (int crew = 0; crew < 3; crew++) {
                 is("of crew " + crew + ", what " + what, x.cost(crew, what), due[crew][what]);

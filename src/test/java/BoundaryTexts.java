@@ -215,6 +215,7 @@ final class BoundaryTexts extends Refusals {
         error(times("pair;", 11) + "crew", 59);
         error(times("pair;", 11) + "crew ", 60);
         error(times("pair;", 10) + "crew 00000", 59);
+        error(times("repair;", 8) + "crew", 60);
         error("~" + times("pair;", 11), 0);
         error("fly 1 2 3", 7);
         error("fly 1 2pair", 7);
@@ -241,6 +242,11 @@ final class BoundaryTexts extends Refusals {
             error("pair;" + word + word, 5);
             error(word.toUpperCase(), 0);
             error(word.substring(0, 1).toUpperCase() + word.substring(1), 0);
+        }
+        for (int word = 0; word < words.length; word++) {
+            for (int i = 0; i < words[word].length(); i++) {
+                error("pair;" + words[word].substring(0, i) + "x" + words[word].substring(i + 1) + " 0 0", 5);
+            }
         }
         error("undo", 0);
         error("a", 0);
@@ -325,6 +331,13 @@ final class BoundaryTexts extends Refusals {
         CrewPairer y = fullest();
         y.execute();
         is("empty after 60 characters", y.feed('!'), 1);
+        CrewPairer w = new CrewPairer();
+        is("a text", run(w, "crew 1;crew 2"), 2);
+        is("does not continue a shorter one that ends in a word", run(w, "crew"), -204);
+        is("nor one that ends behind a blank", run(w, "crew "), -205);
+        is("nor one that ends behind a semicolon", run(w, "crew 3;"), -207);
+        is("nor one that is right", run(w, "crew 3"), 1);
+        is("nor nothing", w.execute(), -200);
         CrewPairer z = fullest();
         z.undo();
         is("undo does not empty it", z.feed('!'), FULL);
