@@ -13,7 +13,7 @@ import java.util.Comparator;
 public final class BoundaryTest extends Asking {
     private static final Class<?>[] TESTS = {
         BoundaryLegs.class, BoundaryRows.class, BoundaryAssigning.class, BoundaryReserves.class, BoundaryBest.class,
-        BoundaryTexts.class, BoundaryChanges.class,
+        BoundaryTexts.class, BoundaryChanges.class, BoundaryMisreadings.class,
     };
 
     /** What names no boundary: where the document speaks of itself, or says what is free. */

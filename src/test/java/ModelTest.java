@@ -6,6 +6,9 @@ public final class ModelTest {
     // An object is used for at most 512 calls, and a command text takes up to 61.
     private static final int CALLS = 430;
     private static final int ALL_CALLS = 512;
+    // A change while a text is fed may ask for 6 rows of 24 items, too.
+    private static final int ROOM_FOR_MORE = 300;
+    private static final int COMMAND = 14;
     // The model tries all sequences of legs for a best pairing.
     private static final int SLOW = 11;
 
@@ -23,6 +26,8 @@ public final class ModelTest {
     private final Model model = new Model();
     private final StringBuilder calls = new StringBuilder();
     private final int airports;
+    /** Whether long legs are moved over each other, in long rows with deadheads and with many reserves. */
+    private final boolean tangled;
     private int made;
     private boolean wrong;
 
@@ -30,7 +35,8 @@ public final class ModelTest {
         this.check = check;
         this.seed = seed;
         random = new Random(seed);
-        airports = 2 + random.nextInt(3);
+        tangled = seed % 4 == 3;
+        airports = 2 + random.nextInt(tangled ? 2 : 3);
     }
 
     public static void main(String[] args) {
@@ -44,6 +50,9 @@ public final class ModelTest {
     private void run() {
         int begin = 4 + random.nextInt(40);
         int changes = 1 + random.nextInt(10);
+        if (tangled) {
+            widen();
+        }
         while (made < CALLS && !wrong) {
             if (made < begin) {
                 begin();
@@ -52,6 +61,15 @@ public final class ModelTest {
             } else {
                 question();
             }
+        }
+    }
+
+    /** Sets rules under which rows become long. */
+    private void widen() {
+        int[] values = {pick(10, 30), pick(300, 300, 600), 960, 720, 8, 1200, pick(0, 1, 10), 500};
+        for (int rule = 0; rule < values.length; rule++) {
+            compare("setRule(" + rule + ", " + values[rule] + ")",
+                    program.setRule(rule, values[rule]), model.setRule(rule, values[rule]));
         }
     }
 
@@ -124,13 +142,20 @@ public final class ModelTest {
         }
         int to = random.nextInt(30) == 0 ? from : (from + 1 + random.nextInt(airports - 1)) % airports;
         int length = pick(1, 20, 60, 60, 90, 120, 120, 240, 1 + upTo(500), pick(0, 480, 481, 600, 601));
+        if (tangled) {
+            length = pick(5, 10, 20, 60, 200, 300);
+        }
         return new int[] {from, to, departure, departure + length};
     }
 
     private void change() {
+        change(tangled && random.nextInt(3) == 0 ? pick(4, 7, 11, 13) : upTo(16));
+    }
+
+    private void change(int kind) {
         int crew = aCrew();
         int leg = aFreeLeg();
-        switch (upTo(16)) {
+        switch (kind) {
             case 0 -> begin();
             case 1, 2, 3 -> compare("fly(" + crew + ", " + leg + ")", program.fly(crew, leg), model.fly(crew, leg));
             case 4, 5 -> {
@@ -170,7 +195,7 @@ public final class ModelTest {
                     rows();
                 }
             }
-            case 14 -> command();
+            case COMMAND -> command();
             case 15 -> compare("undo()", program.undo(), model.undo());
             default -> {
                 if (random.nextInt(3) == 0) {
@@ -188,6 +213,7 @@ public final class ModelTest {
         if (leg >= 0 && leg < model.legCount() && random.nextInt(3) == 0) {
             int other = aLeg();
             minutes = Math.max(0, model.leg(other, 2)) - model.leg(leg, 2);
+            minutes += tangled ? pick(-40, 0, 5, 20, 40) : 0;
         }
         compare("delay(" + leg + ", " + minutes + ")", program.delay(leg, minutes), model.delay(leg, minutes));
     }
@@ -239,9 +265,22 @@ public final class ModelTest {
         calls.append('"').append(text).append("\" ");
         for (int i = 0; i < text.length(); i++) {
             int letter = text.charAt(i);
+            if (random.nextInt(60) == 0) {
+                interlude();
+            }
             compare("feed(" + letter + ")", program.feed(letter), model.feed(letter));
         }
         compare("execute()", program.execute(), model.execute());
+    }
+
+    /** What is called while a text is fed must leave the text alone. */
+    private void interlude() {
+        int kind = upTo(16);
+        if (kind == COMMAND || random.nextInt(3) == 0) {
+            question();
+        } else if (made < ROOM_FOR_MORE) {
+            change(kind);
+        }
     }
 
     private String aCommand() {
